@@ -1700,6 +1700,9 @@ public final class PartyLine {
         final Search search = new Search();
         private final World world;
         private final int[] marks = new int[MOST_BITS];
+        // The bits that can be told, sorted by where they are from, and where those of each moment begin.
+        private final int[] sorted = new int[MOST_BITS];
+        private final int[] begins = new int[MOST_MOMENTS + 1];
         private long[] counts = new long[MOST_MOMENTS];
         private long[] nexts = new long[MOST_MOMENTS];
 
@@ -1745,8 +1748,12 @@ public final class PartyLine {
 
         /** The first of the shortest ways by which each of the bits that must be told is told: how many bits. */
         int find(int from, int to, int must) {
-            int sets = markBits(must);
             int tellable = world.tellableBits();
+            if ((must & ~tellable) != 0) {
+                return NONE;
+            }
+            int sets = markBits(must);
+            sortBits(tellable);
             search.begin(sets * MOST_MOMENTS, from, (sets - 1) * MOST_MOMENTS + to);
             int most = search.size();
             for (int i = 0; i < most; i++) {
@@ -1754,7 +1761,7 @@ public final class PartyLine {
                 if (place == NONE) {
                     break;
                 }
-                spread(place, tellable);
+                spread(place);
             }
             return search.steps();
         }
@@ -1772,14 +1779,28 @@ public final class PartyLine {
             return sets;
         }
 
-        private void spread(int place, int tellable) {
+        /** A search looks at many places: it must not go through all bits at each. */
+        private void sortBits(int tellable) {
             Line plan = world.plan;
+            int n = 0;
+            for (int m = 0; m < MOST_MOMENTS; m++) {
+                begins[m] = n;
+                for (int b = 0; b < plan.bits; b++) {
+                    if ((tellable >> b & 1) != 0 && plan.from[b] == m) {
+                        sorted[n] = b;
+                        n++;
+                    }
+                }
+            }
+            begins[MOST_MOMENTS] = n;
+        }
+
+        private void spread(int place) {
             int moment = place % MOST_MOMENTS;
             int told = place / MOST_MOMENTS;
-            for (int b = 0; b < plan.bits; b++) {
-                if ((tellable >> b & 1) != 0 && plan.from[b] == moment) {
-                    search.offer((told | marks[b]) * MOST_MOMENTS + plan.to[b], place, b);
-                }
+            for (int i = begins[moment]; i < begins[moment + 1]; i++) {
+                int b = sorted[i];
+                search.offer((told | marks[b]) * MOST_MOMENTS + world.plan.to[b], place, b);
             }
         }
 
@@ -1842,7 +1863,8 @@ public final class PartyLine {
     /** The game of a farm, alone or with friends, against all others. */
     private static final class Game {
         private final World world;
-        private final int[] allowed = new int[MOST_FARMS];
+        // Of each turn and moment, the moments to which that turn's farm can lead, as bits; none: it is silent.
+        private final int[] leads = new int[MOST_FARMS * MOST_MOMENTS];
         // Of each turn, the moments from which it is forced within the turns looked at so far.
         private final int[] won = new int[MOST_FARMS];
         private final int[] wider = new int[MOST_FARMS];
@@ -1852,8 +1874,16 @@ public final class PartyLine {
         }
 
         void learn() {
-            for (int f = 0; f < world.plan.farms; f++) {
-                allowed[f] = world.allowedBits(f);
+            Line plan = world.plan;
+            for (int i = 0; i < leads.length; i++) {
+                leads[i] = 0;
+            }
+            for (int f = 0; f < plan.farms; f++) {
+                for (int b = 0; b < plan.bits; b++) {
+                    if (world.allows(f, b)) {
+                        leads[f * MOST_MOMENTS + plan.from[b]] |= 1 << plan.to[b];
+                    }
+                }
             }
         }
 
@@ -1883,34 +1913,23 @@ public final class PartyLine {
             boolean grew = false;
             for (int t = 0; t < world.plan.farms; t++) {
                 int behind = won[world.nextFarm(t)];
+                boolean friend = (friends >> t & 1) != 0;
                 wider[t] = won[t];
                 for (int m = 0; m < world.plan.moments; m++) {
-                    if ((won[t] >> m & 1) == 0 && leadsInto(t, m, behind, friends)) {
+                    if (leadsInto(leads[t * MOST_MOMENTS + m], m, behind, friend)) {
                         wider[t] |= 1 << m;
-                        grew = true;
                     }
                 }
+                grew |= wider[t] != won[t];
             }
             return grew;
         }
 
-        private boolean leadsInto(int t, int m, int behind, int friends) {
-            Line plan = world.plan;
-            boolean silent = true;
-            boolean some = false;
-            boolean all = true;
-            for (int b = 0; b < plan.bits; b++) {
-                if ((allowed[t] >> b & 1) != 0 && plan.from[b] == m) {
-                    boolean leads = (behind >> plan.to[b] & 1) != 0;
-                    silent = false;
-                    some |= leads;
-                    all &= leads;
-                }
-            }
-            if (silent) {
+        private static boolean leadsInto(int whither, int m, int behind, boolean friend) {
+            if (whither == 0) {
                 return (behind >> m & 1) != 0;
             }
-            return (friends >> t & 1) != 0 ? some : all;
+            return friend ? (whither & behind) != 0 : (whither & ~behind) == 0;
         }
 
         int firstBest(int f, int m) {
@@ -1919,7 +1938,7 @@ public final class PartyLine {
             }
             Line plan = world.plan;
             int behind = won[world.nextFarm(f)];
-            int could = allowed[f] & plan.bitsFrom(world.now.moments[f]);
+            int could = world.allowedBits(f) & plan.bitsFrom(world.now.moments[f]);
             for (int b = 0; b < plan.bits; b++) {
                 if ((could >> b & 1) != 0 && (behind >> plan.to[b] & 1) != 0) {
                     return b;
