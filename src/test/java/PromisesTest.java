@@ -77,6 +77,19 @@ public final class PromisesTest {
         due("the first bytes only", x.line(18), 1);
         due("no wire is cut", x.count(4), 0);
         due("the tape is empty then", x.count(9), 0);
+        Check.feed(x, "farms 2 moments 22;");
+        due("a number ends with the text", x.line(17), -32);
+        due("its place", x.fault(1), 17);
+        Check.feed(x, "farms 2 moments 2;cutter");
+        due("a word ends with the text", x.line(21), -32);
+        due("its place", x.fault(1), 21);
+        due("a text that ends with not", Check.line(x, "farms 2 moments 2;tells : not not not not not not"), -32);
+        due("leaves nothing for the next one", Check.line(x, "farms 2 moments 2;tells : not not not not not not 1 = 1;"), 2);
+        due("a text that ends with (", Check.line(x, "farms 2 moments 2;likes : (((((("), -32);
+        due("leaves nothing for the next one", Check.line(x, "farms 2 moments 2;likes : ((((((1))))));"), 2);
+        due("a text that ends with [", Check.line(x, "farms 2 moments 2;tells : [[[[[[1 = 1"), -32);
+        due("leaves nothing for the next one", Check.line(x, "farms 2 moments 2;tells : [[[[[[1 = 1]]]]]];likes : 1 + moment;"), 3);
+        due("nor for its laws", x.likes(0, 1), 2);
     }
 
     private static void fault(String text, int kind, int place) {
@@ -107,6 +120,11 @@ public final class PromisesTest {
         fault(two + ";", 2, 18);
         fault(two + "farms 2 moments 2;", 2, 18);
         fault(two + "bits 0 to 1;", 2, 18);
+        fault(two + "zz 0 to 1;", 2, 18);
+        fault(two + "bi 0 to 1;", 2, 18);
+        fault(two + "{", 1, 18);
+        fault(two + "`", 1, 18);
+        fault(two + "/", 1, 18);
         fault(two + "bit 0 to 1 must must;", 2, 34);
         fault(two + "bit 0 to 2 1000;", 3, 27);
         fault(two + "bit 1000 to 2;", 1, 22);

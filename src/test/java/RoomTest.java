@@ -68,12 +68,12 @@ public final class RoomTest {
             for (int i = 0; i < ints.length; i += 5) {
                 x.feed(ints[i], ints[i + 1], ints[i + 2], ints[i + 3], ints[i + 4]);
             }
-            lines += x.line(text.length());
+            lines += x.line(text.length()) + x.likes(0, 0);
             x.image(n % 2);
             x.restore(n % 2);
         }
         spent("ten long texts with images", since, MOST_BYTES);
-        Check.due("lines", lines, 140);
+        Check.due("lines and likings", lines, 160);
     }
 
     /** Each question many times, beside deeds, behind the first time that may make rows for later ones. */
