@@ -4,15 +4,21 @@ import java.nio.charset.StandardCharsets;
 final class Check {
     private static int wrong;
     private static int checked;
+    private static String heading = "";
 
     private Check() {
+    }
+
+    /** What the answers from now on are of. */
+    static void under(String newHeading) {
+        heading = newHeading;
     }
 
     static void due(String call, long got, long want) {
         checked++;
         if (got != want) {
             wrong++;
-            System.out.println(call + " answered " + got + ", due is " + want);
+            System.out.println(heading + call + " answered " + got + ", due is " + want);
         }
     }
 
