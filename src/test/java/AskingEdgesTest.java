@@ -48,6 +48,10 @@ public final class AskingEdgesTest extends Edges {
         due("so there is a way", x.fewest(0, 2), 2);
         x = fine("farms 2 moments 3;bit 0 to 1;bit 1 to 2;tells:farm=bit;", 4);
         due("each by another farm", x.fewest(0, 2), 2);
+        x = fine("farms 2 moments 2;bit 0 to 1;tells:mood=1;", 3);
+        due("nobody may tell bit 0", x.fewest(0, 1), -1);
+        due("mood(1, 1)", x.mood(1, 1), 0);
+        due("one may tell bit 0", x.fewest(0, 1), 1);
     }
 
     static void theFewestTheFirst() {
@@ -110,6 +114,12 @@ public final class AskingEdgesTest extends Edges {
         x = fine("farms 2 moments 2;bit 0 to 1;bit 0 to 0;tells:farm=1 or bit=1;", 4);
         due("what it may not tell it doesn't", x.forces(0, 1), -1);
         due("another one may", x.forces(1, 1), 2);
+        x = fine("farms 2 moments 2;bit 0 to 1;bit 0 to 0;tells:bit=1 or farm=mood;", 4);
+        due("by moods as they are", x.forces(0, 1), 1);
+        due("mood(0, 5)", x.mood(0, 5), 0);
+        due("by moods as they are now", x.forces(0, 1), -1);
+        due("mood(1, 1)", x.mood(1, 1), 0);
+        due("farm 1 may now", x.forces(1, 1), 2);
     }
 
     static void whateverOthersTell() {
@@ -152,6 +162,9 @@ public final class AskingEdgesTest extends Edges {
         due("not heard", x.joins(0, 1), 2);
         due("first", x.joinBy(0, 1, 0), 100);
         due("second", x.joinBy(0, 1, 1), 101);
+        x = fine("farms 3 moments 2;bit 0 to 1;hears:1=2;", 3);
+        x.tell(2, 0);
+        due("farm 1 tells", x.joinBy(2, 1, 0), 100);
         x = fine(line + "farm=mood;farm 1 mood 9;farm 0 mood 9;", 7);
         x.tell(0, 0);
         x.tell(0, 1);
@@ -177,6 +190,18 @@ public final class AskingEdgesTest extends Edges {
         x = fine("farms 2 moments 3;bit 0 to 1;bit 0 to 1;bit 0 to 2;cut 0;", 5);
         x.tell(0, 1);
         due("the first of two that lead to the same", x.joinBy(1, 0, 0), 100);
+        x = fine("farms 2 moments 3;bit 1 to 0;bit 1 to 2;bit 2 to 0;cut 0;now 1;", 6);
+        x.tell(0, 0);
+        due("back at moment 0: one bit", x.joins(0, 1), 1);
+        due("by bit 0", x.joinBy(0, 1, 0), 100);
+        x = fine("farms 2 moments 8;bit 0 to 1;bit 1 to 2;bit 2 to 3;bit 3 to 0;bit 4 to 5;bit 5 to 6;bit 6 to 7;bit 7 to 3;bit 0 to 4;"
+            + "tells:farm=0 and bit<4 or farm=1 and bit>3;hears:1=2;", 12);
+        x.tell(1, 8);
+        int[] deeds = {0, 1, 2, 104, 105, 106, 107, -1};
+        due("both have far to go", x.joins(0, 1), 7);
+        for (int i = 0; i < deeds.length; i++) {
+            due("deed " + i, x.joinBy(0, 1, i), deeds[i]);
+        }
     }
 
     // ---- what was told

@@ -304,6 +304,11 @@ public final class DeedEdgesTest extends Edges {
             }
         }
         due("winters of none", none, 5);
+        PartyLine x = Scene.lived();
+        Check.holds("a winter in the middle of a life does some", x.winter(3, 40) > 8);
+        due("it is one call", x.count(8), 7);
+        due("undo(1)", x.undo(1), 6);
+        Check.holds("undone as a whole", Scene.all(x).equals(Scene.all(Scene.lived())));
     }
 
     static void notSoManyTimes() {

@@ -70,6 +70,7 @@ public final class GameEdgesTest extends Edges {
         PartyLine x = fine("farms 2 moments 3;bit 0 to 1;bit 0 to 2;bit 1 to 2;bit 0 to 2;", 5);
         due("bit 0 does, too, but slower; bit 3 is later", x.best(0, 2), 1);
         due("its turns", x.forces(0, 2), 1);
+        due("by bit 0", x.best(0, 1), 0);
         x = fine("farms 2 moments 4;bit 0 to 0;bit 0 to 1;bit 1 to 2;bit 2 to 3;bit 0 to 2;", 6);
         due("two turns: by bit 4 alone", x.best(0, 3), 4);
         due("its turns", x.forces(0, 3), 2);
@@ -94,6 +95,9 @@ public final class GameEdgesTest extends Edges {
         unchanged("best(1, 2): it is there", x -> x.best(1, 2), -1);
         unchanged("best(1, 3): it must be silent", x -> x.best(1, 3), -1);
         due("though it forces it", Scene.lived().forces(1, 3), 2);
+        PartyLine y = fine("farms 2 moments 2;bit 0 to 1;bit 0 to 0;", 3);
+        due("elsewhere by bit 0", y.best(0, 1), 0);
+        due("it is there, though bits lead on and back", y.best(0, 0), -1);
         due("silent, though forced", farmZeroIsSilent().best(0, 1), -1);
         due("within", farmZeroIsSilent().forces(0, 1), 2);
         refused("best(0, 3): it isn't its turn", x -> x.best(0, 3), -5);

@@ -30,6 +30,12 @@ public final class LineEdgesTest extends Edges {
         due("call 512", x.count(6), 508 * 99);
     }
 
+    static void theConstant() {
+        sentence("Terms", "The constants: `NONE = -1`: There is none.");
+        due("NONE", PartyLine.NONE, -1);
+        due("it is no code of a refused call", Scene.lived().fewest(3, 0), PartyLine.NONE);
+    }
+
     static void aNewObject() {
         sentence("Promise 1", "2 FARMS, 2 MOMENTS, no BITS.");
         PartyLine x = new PartyLine();
@@ -127,6 +133,34 @@ public final class LineEdgesTest extends Edges {
         due("anybody may tell", x.bit(0, 3), 3);
         due("trays stay", x.write(0, 4, 7), 7);
         due("images stay", x.restore(0), 0);
+    }
+
+    static void nothingOfEarlierTexts() {
+        sentence("Promise 3", "are THE LINE,");
+        String all = "farms 2 moments 2;bit 0 to 1 must;bit 0 to 1 must;farm 1 wish 1 mood 9;cut 0;snow 7 at 0;now 1;";
+        String law = "(1+0)*".repeat(70) + "1";
+        PartyLine x = new PartyLine();
+        for (String wrong : new String[] {"tells:1=2;hears:1=2;likes:" + law + ";", "tells:not not not not not not ", "tells:[[[[[[1=", "likes:((((((1", "@"}) {
+            for (int i = 0; i < 2; i++) {
+                Check.holds("a text with all", Check.line(x, all + wrong) != 0);
+            }
+            due("a text with six openings each", Check.line(x, "farms 2 moments 2;tells:[[[[[[1=1]]]]]] and not not not not not not 1=1;"
+                + "likes:((((((1))))))+" + law + ";bit 0 to 1;"), 4);
+            due("its law tells", x.bit(0, 3), 3);
+            due("its law likes", x.likes(1, 1), 2);
+            due("a text with nothing", Check.line(x, "farms 2 moments 2;bit 0 to 0;"), 2);
+            int[] counts = {2, 2, 1, 0, 0, 0, 0, 0, 0, 0, 2};
+            for (int what = 0; what <= 10; what++) {
+                due("count(" + what + ")", x.count(what), counts[what]);
+            }
+            int[] farm = {0, 0, 0, 0, 1, 1};
+            for (int what = 0; what <= 5; what++) {
+                due("farm(1, " + what + ")", x.farm(1, what), farm[what]);
+            }
+            due("anybody may tell", x.bit(0, 3), 3);
+            due("no snow", x.wire(0, 1), 0);
+            due("no law likes", x.likes(1, 0), 1);
+        }
     }
 
     static void howManyLines() {

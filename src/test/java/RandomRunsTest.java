@@ -10,6 +10,8 @@ import java.util.Random;
 /** Runs of calls by chance, from told seeds, on the class and on the model: each answer must be the same. */
 public final class RandomRunsTest {
     private static final int RUNS = 1500;
+    // What an object answers behind its 512th call is free.
+    private static final int MOST_CALLS = 512;
     private static final List<Method> CALLS = new ArrayList<>();
 
     private final Random random;
@@ -17,6 +19,7 @@ public final class RandomRunsTest {
     private final Model model = new Model();
     private final List<String> told = new ArrayList<>();
     private final int run;
+    private int calls;
     private boolean broken;
 
     private RandomRunsTest(int run) {
@@ -42,7 +45,7 @@ public final class RandomRunsTest {
 
     private void go() throws Exception {
         int texts = 1 + random.nextInt(3);
-        for (int t = 0; t < texts && !broken; t++) {
+        for (int t = 0; t < texts && !isOver(); t++) {
             if (t > 0 || random.nextInt(10) > 0) {
                 for (int i = 0; i < 5 && newText() < 0; i++) {
                     told.add("(that had a fault)");
@@ -51,14 +54,18 @@ public final class RandomRunsTest {
             for (int tray = 0; tray < 4; tray++) {
                 layTray(tray, tray);
             }
-            int calls = 60 + random.nextInt(60);
-            for (int i = 0; i < calls && !broken; i++) {
+            int more = 60 + random.nextInt(60);
+            for (int i = 0; i < more && !isOver(); i++) {
                 if (random.nextInt(60) == 0) {
                     feedText("bit 0 to 1;");
                 }
                 oneCall();
             }
         }
+    }
+
+    private boolean isOver() {
+        return broken || calls >= MOST_CALLS;
     }
 
     private int newText() throws Exception {
@@ -68,12 +75,12 @@ public final class RandomRunsTest {
         told.add("(that was: " + text + ")");
         same(PartyLine.class.getMethod("fault", int.class), 0);
         same(PartyLine.class.getMethod("fault", int.class), 1);
-        return x.fault(1) == -1 ? 0 : -1;
+        return model.fault(1) == -1 ? 0 : -1;
     }
 
     private void feedText(String text) {
         int[] ints = Check.ints(text);
-        for (int i = 0; i < ints.length; i += 5) {
+        for (int i = 0; i < ints.length && !isOver(); i += 5) {
             int[] five = Arrays.copyOfRange(ints, i, i + 5);
             compare("feed " + Arrays.toString(five), x.feed(five[0], five[1], five[2], five[3], five[4]), model.feed(five));
         }
@@ -249,7 +256,7 @@ public final class RandomRunsTest {
     }
 
     private void same(Method call, Object... args) throws Exception {
-        if (!broken) {
+        if (!isOver()) {
             Method other = Model.class.getDeclaredMethod(call.getName(), call.getParameterTypes());
             compare(call.getName() + " " + Arrays.toString(args), answer(call, x, args), answer(other, model, args));
         }
@@ -264,6 +271,7 @@ public final class RandomRunsTest {
     }
 
     private void compare(String call, long got, long want) {
+        calls++;
         told.add(call + " -> " + want);
         Check.due("run " + run + ": " + call, got, want);
         if (got != want) {

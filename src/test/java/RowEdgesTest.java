@@ -96,6 +96,18 @@ public final class RowEdgesTest extends Edges {
         due("what comes behind isn't sure", x.sureBit(0, 0, 2), -1);
         Check.lay(x, 0, 1, 1, 2, -1, 2);
         due("what is heard later makes it sure", x.sureBit(0, 0, 2), 4);
+        x = fine("farms 2 moments 4;bit 0 to 1;bit 0 to 2;bit 1 to 3;bit 2 to 0;bit 0 to 0;", 6);
+        Check.lay(x, 0, 1, -1, 3);
+        due("only over 1 does it go on to 3", x.sureBit(0, 0, 0), 0);
+        Check.lay(x, 0, 1, 2, -1, 1);
+        due("sure", x.sureBit(0, 0, 1), 3);
+        Check.lay(x, 0, 1, -1, 0, 1);
+        due("over 2 or 0", x.sureBit(0, 0, 0), -1);
+        due("bit 0 at last", x.sureBit(0, 0, 2), 0);
+        Check.lay(x, 0, 1, -1, -1, 1, 3);
+        due("bit 2 at last", x.sureBit(0, 0, 3), 2);
+        due("over 2 or 0", x.sureBit(0, 0, 1), -1);
+        due("not over 1, which leads to 3 alone", x.sureBit(0, 2, 0), 3);
         x = fine(LOOPS.replaceFirst("bit 0 to 0;", ""), 12);
         Check.lay(x, 0, 0, times(12, -1));
         due("eleven such at the last place", x.sureBit(0, 0, 11), -1);

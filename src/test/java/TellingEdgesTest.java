@@ -269,6 +269,10 @@ public final class TellingEdgesTest extends Edges {
         for (int v : new int[] {1999, 2080, 2099, 2100, 2110}) {
             deed(x, v, 1);
         }
+        for (int f = 0; f < 8; f++) {
+            deed(x, 2000 + f * 10 + f, 0);
+            due("mood " + f + " of farm " + f, x.farm(f, 2), f);
+        }
         x = fine("farms 2 moments 2;", 1);
         deed(x, 2019, 0);
         deed(x, 2020, 1);

@@ -133,6 +133,7 @@ public final class TextEdgesTest extends Edges {
             faulty(2, TWO + law + "^");
             faulty(2, TWO + law + " ^1=1;");
             faulty(2, TWO + law + " ^;");
+            faulty(2, TWO + law + "^;now 9;");
             faulty(2, TWO + law + ":^");
             faulty(2, TWO + law + ":^;");
             faulty(2, TWO + law + ":^:1;");
@@ -309,6 +310,44 @@ public final class TextEdgesTest extends Edges {
         }
     }
 
+    /** Eight farms, eight moments, twelve bits and laws of all sorts: nothing lies behind its end. */
+    static void theLargestLine() {
+        sentence("Terms", "farms, moments: 2 to 8 each,");
+        PartyLine x = fine("farms 8 moments 8;bit 0 to 1;bit 1 to 2;bit 2 to 3;bit 3 to 4;bit 4 to 5;bit 5 to 6;bit 6 to 7;bit 7 to 0;"
+            + "bit 7 to 6;bit 7 to 5;bit 7 to 4;bit 7 to 7 must;tells:farm+bit<99;hears:far<9;likes:moment*farm;"
+            + "snow 1 at 6;farm 7 wish 7 mood 9;now 7;", 19);
+        due("what farm 7 hears", x.farm(7, 4), 127);
+        due("what farm 7 can tell", x.farm(7, 5), 3968);
+        due("who may tell bit 11", x.bit(11, 3), 255);
+        due("likes(7, 7)", x.likes(7, 7), 49);
+        due("tell(7, 11)", x.tell(7, 11), 7);
+        due("doubts", x.count(7), 0);
+        due("tales", x.tales(), 1);
+        due("who hears farm 7", x.heardBy(7), 127);
+        due("the best ear", x.ear(), 0);
+        due("needs", x.needs(0, 7), 127);
+        due("listeners", x.listeners(), 1);
+        due("reach", x.reach(7), 255);
+        due("fewest", x.fewest(0, 7), 7);
+        due("ways", x.ways(7, 7, 1), 1);
+        due("full", x.full(6, 0), 3);
+        due("its last bit", x.fullWay(6, 0, 2), 7);
+        due("ends", x.ends(), 0);
+        due("forces: others can keep to 5, 6, 7", x.forces(7, 4), -1);
+        due("power: from 0 on all goes its way", x.power(0), 255);
+        due("best", x.best(0, 4), 10);
+        due("ally", x.ally(7, 1), 0);
+        due("joins", x.joins(6, 7), 0);
+        Check.lay(x, 3, 3, -1, -1, -1, -1, -1, -1, -1, -1, -1, -1, -1, 7);
+        due("rows", x.rows(3, 7) > 0 ? 1 : 0, 1);
+        due("better", x.better(), 0);
+        due("fairest", x.fairest(), 0);
+        due("snow", x.snow(7, 0, 0), 9);
+        due("left", x.left(7, 90), 7);
+        due("go(8)", x.go(8), 8);
+        due("the turn", x.count(5), 0);
+    }
+
     static void fromMomentToMoment() {
         sentence("Terms", "bit: from a MOMENT to one (the same, too),");
         PartyLine x = fine("farms 2 moments 3;bit 0 to 2;bit 2 to 0;bit 1 to 1;bit 0 to 0;bit 2 to 2;", 6);
@@ -423,6 +462,7 @@ public final class TextEdgesTest extends Edges {
         x = fine("farms 3 moments 3;bit 1 to 2;tells:farm=0;likes:moment*2+farm;hears:farm=1;", 5);
         due("another law leaves tells", x.bit(0, 3), 1);
         due("another law leaves likes", x.likes(2, 1), 4);
+        due("of a hundred and ten", fine(TWO + "likes:1;".repeat(109) + "likes:2;", 111).likes(0, 0), 2);
     }
 
     // ---- tokens
@@ -567,6 +607,11 @@ public final class TextEdgesTest extends Edges {
         faultyAt(2, 898, long899);
         faultyAt(2, 900, long899 + "  ");
         fine(long899 + "; ", 2);
+        String middle = TWO + " ".repeat(880);
+        faulty(2, middle + "^no");
+        faulty(2, middle + "^fa");
+        faulty(2, TWO + " ".repeat(879) + "now^");
+        faulty(2, middle.replaceFirst("2;", "2 ") + "^12");
         PartyLine x = new PartyLine();
         Check.feed(x, TWO + "now 1;");
         due("line(23) of 24 bytes", x.line(23), -32);

@@ -47,6 +47,9 @@ public final class WayEdgesTest extends Edges {
         }
         x = fine(CHAIN + "bit 0 to 7;", 9);
         due("the shorter one", x.fewest(0, 7), 1);
+        x = fine("farms 2 moments 3;bit 1 to 0;bit 2 to 1;", 3);
+        due("to moment 0", x.fewest(1, 0), 1);
+        due("to moment 0 over 1", x.fewest(2, 0), 2);
         due("a bit to itself isn't needed", fine("farms 2 moments 2;bit 0 to 0;", 2).fewest(0, 0), 0);
     }
 

@@ -15,6 +15,8 @@ public final class WishEdgesTest extends Edges {
         due("all alike: none", fine("farms 2 moments 8;likes:7;", 2).better(), 0);
         due("all but its own", fine("farms 2 moments 8;likes:moment;", 2).better(), 254);
         due("none above the most", fine("farms 2 moments 8;likes:moment;now 7;", 3).better(), 0);
+        due("the first, too", fine("farms 2 moments 8;likes:7-moment;now 7;", 3).better(), 127);
+        due("the first alone", fine("farms 2 moments 8;likes:7-moment;now 1;", 3).better(), 1);
         due("one farm more, the other one alike", fine("farms 2 moments 3;likes:farm*moment;", 2).better(), 6);
         due("one farm more, the other one less by one", fine("farms 2 moments 3;likes:farm*moment*9-moment;", 2).better(), 0);
         due("one wish", fine("farms 2 moments 3;farm 0 wish 1;farm 1 wish 2;", 3).better(), 6);
@@ -112,6 +114,9 @@ public final class WishEdgesTest extends Edges {
         x = fine("farms 4 moments 2;snow 9 at 0;snow 9 at 1;snow 9 at 2;", 4);
         due("one in a hundred", x.left(0, 1), 2);
         due("two in a hundred", x.left(0, 2), 1);
+        x = fine("farms 4 moments 2;snow 1 at 0;snow 1 at 1;snow 1 at 2;", 4);
+        due("729 in 1000 is above 72 in 100", x.left(0, 72), 3);
+        due("729 in 1000 is below 73 in 100", x.left(0, 73), 2);
     }
 
     static void leftRefuses() {
