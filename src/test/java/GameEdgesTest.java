@@ -189,6 +189,11 @@ public final class GameEdgesTest extends Edges {
             refused("joins(0, " + wrong + ")", x -> x.joins(0, wrong), -2);
         }
         due("joins(2, 1)", Scene.lived().joins(2, 1), -1);
+        PartyLine x = fine("farms 2 moments 8;bit 0 to 7;bit 0 to 1;bit 0 to 2;cut 0;", 5);
+        x.tell(0, 1);
+        x.tell(1, 2);
+        x.cut(0);
+        due("they hear each other, but no bit is from where they are", x.joins(0, 1), -1);
     }
 
     static void deedsThatJoin() {

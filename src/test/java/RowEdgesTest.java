@@ -104,6 +104,8 @@ public final class RowEdgesTest extends Edges {
         Check.lay(x, 0, 1, -1, 0, 1);
         due("over 2 or 0", x.sureBit(0, 0, 0), -1);
         due("bit 0 at last", x.sureBit(0, 0, 2), 0);
+        Check.lay(x, 0, 1, -1, -1, 3);
+        due("to 3 over 1, to 1 from 0", x.sureBit(0, 0, 0), 4);
         Check.lay(x, 0, 1, -1, -1, 1, 3);
         due("bit 2 at last", x.sureBit(0, 0, 3), 2);
         due("over 2 or 0", x.sureBit(0, 0, 1), -1);

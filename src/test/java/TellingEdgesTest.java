@@ -270,8 +270,8 @@ public final class TellingEdgesTest extends Edges {
             deed(x, v, 1);
         }
         for (int f = 0; f < 8; f++) {
-            deed(x, 2000 + f * 10 + f, 0);
-            due("mood " + f + " of farm " + f, x.farm(f, 2), f);
+            deed(x, 2000 + f * 10 + 9 - f, 0);
+            due("mood " + (9 - f) + " of farm " + f, x.farm(f, 2), 9 - f);
         }
         x = fine("farms 2 moments 2;", 1);
         deed(x, 2019, 0);
