@@ -1,5 +1,3 @@
-import java.util.function.Supplier;
-
 /** The boundary cases of "Terms", ==== 3: ways, the game, joining, rows, snow, winters, trays, images, refused calls. */
 public final class AskingEdgesTest extends Edges {
     private static final String FULL_TEXT = "farms 2 moments 4;bit 0 to 1;bit 1 to 2;bit 2 to 3 must;bit 0 to 2;bit 2 to 3 must;bit 0 to 2;bit 3 to 2;";
@@ -9,21 +7,6 @@ public final class AskingEdgesTest extends Edges {
 
     public static void main(String[] args) throws Exception {
         runAll(AskingEdgesTest.class);
-    }
-
-    /** The scene of Scene.lived() with other numbers in tray 1. */
-    private static Supplier<PartyLine> withTray(long... numbers) {
-        return () -> {
-            PartyLine x = Scene.lived();
-            Check.lay(x, 1, 3, numbers);
-            return x;
-        };
-    }
-
-    private static long[] times(int n, long v) {
-        long[] answer = new long[n];
-        java.util.Arrays.fill(answer, v);
-        return answer;
     }
 
     // ---- ways

@@ -1,7 +1,5 @@
 /** The boundary cases of promises 9 to 16: deeds, deeds undone, deeds in trays, winters. */
 public final class DeedEdgesTest extends Edges {
-    private static final int[] WRONG = {Integer.MIN_VALUE, -1, Integer.MAX_VALUE};
-
     private DeedEdgesTest() {
     }
 
@@ -200,8 +198,7 @@ public final class DeedEdgesTest extends Edges {
         judged(withDeeds(1000, 3, 103, 900), 2, 3, 2, 2);
         judged(withDeeds(1001, 3), -1, 0, 1, 2);
         judged(withDeeds(2017, 2027, 1001, 3, 900), 4, 1, 1, 3);
-        long[] forty = new long[40];
-        java.util.Arrays.fill(forty, 2005);
+        long[] forty = times(40, 2005);
         judged(withDeeds(forty), -1, 0, 2, 2);
         forty[39] = 1002;
         judged(withDeeds(forty), 39, 1, 2, 2);
@@ -242,8 +239,7 @@ public final class DeedEdgesTest extends Edges {
         x = withDeeds();
         due("none: no deeds", x.perform(0), 0);
         due("nothing to be undone", x.count(8), 6);
-        long[] forty = new long[40];
-        java.util.Arrays.fill(forty, 1000);
+        long[] forty = times(40, 1000);
         x = withDeeds(forty);
         due("all of forty", x.perform(0), 40);
         due("whole again", x.count(4), 2);

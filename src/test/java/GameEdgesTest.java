@@ -1,6 +1,5 @@
 /** The boundary cases of promises 29 to 35: the game, and farms at one. */
 public final class GameEdgesTest extends Edges {
-    private static final int[] WRONG = {Integer.MIN_VALUE, -1, Integer.MAX_VALUE};
     private static final String CHAIN = "moments 8;bit 0 to 1;bit 1 to 2;bit 2 to 3;bit 3 to 4;bit 4 to 5;bit 5 to 6;bit 6 to 7;";
 
     private GameEdgesTest() {

@@ -1,7 +1,5 @@
 /** The boundary cases of promises 17 to 21: who hears whom. */
 public final class HearingEdgesTest extends Edges {
-    private static final int[] WRONG = {Integer.MIN_VALUE, -1, Integer.MAX_VALUE};
-
     private HearingEdgesTest() {
     }
 

@@ -1,6 +1,5 @@
 /** The boundary cases of promises 1 to 8: a new object, the tape, the line, what can be seen of it. */
 public final class LineEdgesTest extends Edges {
-    private static final int[] WRONG = {Integer.MIN_VALUE, -1, Integer.MAX_VALUE};
     private static final int BLANKS = 0x20202020;
 
     private LineEdgesTest() {

@@ -1,9 +1,5 @@
-import java.util.Arrays;
-import java.util.function.Supplier;
-
 /** The boundary cases of promises 36 to 39: which bits were told by what was heard, who told them. */
 public final class RowEdgesTest extends Edges {
-    private static final int[] WRONG = {Integer.MIN_VALUE, -1, Integer.MAX_VALUE};
     private static final String LOOPS = "farms 8 moments 2;" + "bit 0 to 0;".repeat(12);
 
     private RowEdgesTest() {
@@ -11,21 +7,6 @@ public final class RowEdgesTest extends Edges {
 
     public static void main(String[] args) throws Exception {
         runAll(RowEdgesTest.class);
-    }
-
-    /** The scene of Scene.lived() with other numbers in tray 1. */
-    private static Supplier<PartyLine> withTray(long... numbers) {
-        return () -> {
-            PartyLine x = Scene.lived();
-            Check.lay(x, 1, 3, numbers);
-            return x;
-        };
-    }
-
-    private static long[] times(int n, long v) {
-        long[] answer = new long[n];
-        Arrays.fill(answer, v);
-        return answer;
     }
 
     static void howManyRows() {

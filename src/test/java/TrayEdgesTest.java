@@ -1,6 +1,5 @@
 /** The boundary cases of promises 44 to 49: trays, images, counts. */
 public final class TrayEdgesTest extends Edges {
-    private static final int[] WRONG = {Integer.MIN_VALUE, -1, Integer.MAX_VALUE};
     private static final String CHAIN = "farms 2 moments 5;bit 0 to 1;bit 1 to 2;bit 2 to 3;bit 3 to 4;";
 
     private TrayEdgesTest() {
@@ -101,9 +100,7 @@ public final class TrayEdgesTest extends Edges {
         sentence("Promise 46", "BITS of the SHORT WAY come into a TRAY, as far as it has places: how many.");
         for (int places = 0; places <= 6; places++) {
             PartyLine x = fine(CHAIN, 5);
-            long[] before = new long[places];
-            java.util.Arrays.fill(before, 77);
-            Check.lay(x, 2, places % 4, before);
+            Check.lay(x, 2, places % 4, times(places, 77));
             due("lists into " + places + " places", x.lists(2, 0, 4), Math.min(places, 4));
             due("what is listed can be told; what isn't, stays", x.perform(2), Math.min(places, 4));
             due("so far it led", x.farm(0, 0), Math.min(places, 4));

@@ -1,6 +1,5 @@
 /** The boundary cases of promises 22 to 28: ways of the tale. */
 public final class WayEdgesTest extends Edges {
-    private static final int[] WRONG = {Integer.MIN_VALUE, -1, Integer.MAX_VALUE};
     private static final String CHAIN = "farms 2 moments 8;bit 0 to 1;bit 1 to 2;bit 2 to 3;bit 3 to 4;bit 4 to 5;bit 5 to 6;bit 6 to 7;";
 
     private WayEdgesTest() {

@@ -1,7 +1,5 @@
 /** The boundary cases of promises 40 to 43: moments all would rather have, and snow. */
 public final class WishEdgesTest extends Edges {
-    private static final int[] WRONG = {Integer.MIN_VALUE, -1, Integer.MAX_VALUE};
-
     private WishEdgesTest() {
     }
 

@@ -11,6 +11,9 @@ import java.util.function.ToLongFunction;
  * sentence first, then asks on each side of the boundary.
  */
 class Edges {
+    /** Numbers that are no farm, moment, bit, wire, tray, place or the like, whatever the line. */
+    static final int[] WRONG = {Integer.MIN_VALUE, -1, Integer.MAX_VALUE};
+
     private static final String LIVED = Scene.all(Scene.lived());
     private static final String LIVED_REST = Scene.rest(Scene.lived());
     private static boolean named;
@@ -43,6 +46,21 @@ class Edges {
         PartyLine x = scene.get();
         due(call, asked.applyAsLong(x), code);
         Check.holds(call + " changes nothing", Scene.all(x).equals(Scene.all(scene.get())));
+    }
+
+    /** The scene of Scene.lived() with other numbers in tray 1. */
+    static Supplier<PartyLine> withTray(long... numbers) {
+        return () -> {
+            PartyLine x = Scene.lived();
+            Check.lay(x, 1, 3, numbers);
+            return x;
+        };
+    }
+
+    static long[] times(int n, long v) {
+        long[] answer = new long[n];
+        Arrays.fill(answer, v);
+        return answer;
     }
 
     /** A fine text on a new object. */
