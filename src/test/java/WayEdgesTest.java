@@ -217,6 +217,7 @@ public final class WayEdgesTest extends Edges {
         due("no bits: all", fine("farms 2 moments 8;", 1).ends(), 255);
         due("the last of a chain", fine(CHAIN, 8).ends(), 128);
         due("none", fine(CHAIN + "bit 7 to 0;", 9).ends(), 0);
+        due("none: a bit to where it is from is a bit, too", fine(CHAIN + "bit 7 to 7;", 9).ends(), 0);
         PartyLine x = fine("farms 8 moments 3;bit 0 to 1;bit 1 to 2;tells:bit=0 or mood=9;", 4);
         due("a bit that nobody may tell", x.ends(), 6);
         x.mood(7, 9);

@@ -40,6 +40,7 @@ final class Scene {
         Check.lay(x, 1, 0, -1, 2, 3);
         Check.lay(x, 2, 3, 0, 1, 3);
         Check.line(x, "farms 2 moments 2;cut 1;");
+        Check.due("calls that can be undone in the scene", x.count(8), 6);
         return x;
     }
 
