@@ -146,9 +146,9 @@ public final class LineEdgesTest extends Edges {
             for (int i = 0; i < 3; i++) {
                 due("a text with all and " + ends[end], Check.line(x, all + ends[end]), answers[end]);
             }
-            due("a text with six openings each", Check.line(x, "farms 2 moments 2;tells:[[[[[[1=1]]]]]] and not not not not not not 1=1;"
+            due("a text with six openings each", Check.line(x, "farms 2 moments 2;tells:[[[[[[farm=0]]]]]] and not not not not not not 1=1;"
                 + "likes:((((((1))))))+" + law + ";bit 0 to 1;"), 4);
-            due("its law tells", x.bit(0, 3), 3);
+            due("its law tells", x.bit(0, 3), 1);
             due("its law likes", x.likes(1, 1), 2);
             due("a text with nothing", Check.line(x, "farms 2 moments 2;bit 0 to 0;"), 2);
             int[] counts = {2, 2, 1, 0, 0, 0, 0, 0, 0, 0, 2};

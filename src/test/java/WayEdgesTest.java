@@ -143,6 +143,9 @@ public final class WayEdgesTest extends Edges {
         due("five rounds of 3 to 7 bits, 7 to the end", x.full(0, 7), 3 + 4 + 5 + 6 + 7 + 7);
         due("once more", x.full(0, 7), 32);
         due("the short one behind it", x.fewest(0, 7), 7);
+        x = fine(CHAIN + "bit 7 to 0;bit 0 to 0 must;bit 1 to 1 must;bit 2 to 2 must;bit 3 to 3 must;", 13);
+        due("the farthest of all, with all told: four loops, ten bits", x.full(0, 2), 14);
+        due("once more", x.full(0, 2), 14);
         x = fine(CHAIN, 8);
         due("none must", x.full(0, 7), 7);
         due("none must, no bits", x.full(3, 3), 0);
